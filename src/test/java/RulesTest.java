@@ -1,0 +1,165 @@
+import java.io.IOException;
+import java.lang.reflect.Field;
+import java.lang.reflect.Member;
+import java.lang.reflect.Method;
+import java.lang.reflect.Modifier;
+import java.nio.charset.StandardCharsets;
+import java.nio.file.Files;
+import java.nio.file.Path;
+import java.util.ArrayList;
+import java.util.List;
+import java.util.Set;
+import java.util.TreeSet;
+import java.util.regex.Matcher;
+import java.util.regex.Pattern;
+
+/** What of LANGUAGE.md and of the document's face can be read off the source and the class. */
+public final class RulesTest {
+    private static int wrong = 0;
+
+    private static void due(boolean so, String what) {
+        if (!so) {
+            wrong++;
+            System.out.println("not so: " + what);
+        }
+    }
+
+    private static String withoutCommentsAndTexts(String source) {
+        return source.replaceAll("(?s)/\\*.*?\\*/", "").replaceAll("//[^\n]*", "")
+            .replaceAll("\"(?:[^\"\\\\]|\\\\.)*\"", "\"\"").replaceAll("'(?:[^'\\\\]|\\\\.)'", "' '");
+    }
+
+    private static void source(String all) {
+        String code = withoutCommentsAndTexts(all);
+        String[] banned = {"throw", "throws", "try", "catch", "synchronized", "assert", "volatile", "transient", "native",
+            "protected", "package", "enum", "hashCode", "toString", "equals", "Random", "currentTimeMillis", "nanoTime",
+            "Thread", "\\w+Exact", "String\\.format", "Object", "float", "double"};
+        for (String word : banned) {
+            due(!Pattern.compile("\\b" + word + "\\b").matcher(code).find(), "no " + word);
+        }
+        due(!code.contains("->") && !code.contains("::"), "no lambda, no method reference");
+        for (String line : code.split("\n")) {
+            if (line.startsWith("import ")) {
+                due(line.equals("import java.util.Arrays;"), "no other import: " + line);
+            }
+            due(line.length() <= 120, "no long line: " + line);
+            boolean field = line.matches("\\s*(private |public )?static .*[=;].*") && !line.contains("(");
+            due(!field || line.contains(" final "), "static fields are final: " + line);
+        }
+        Matcher header = Pattern.compile("(?m)^( +)(?!.*\\b(?:class|new|return|else)\\b)[\\w\\[\\]<> ]+\\([^()]*\\) \\{$")
+            .matcher(code);
+        int methods = 0;
+        while (header.find()) {
+            methods++;
+            int end = code.indexOf("\n" + header.group(1) + "}", header.end());
+            due(code.substring(header.end(), end).split("\n").length <= 60, "no long method: " + header.group());
+            due(header.group().split(",").length <= 7, "at most seven parameters: " + header.group());
+        }
+        due(methods > 45, "methods were found");
+    }
+
+    private static void face(String document) throws Exception {
+        Set<String> want = new TreeSet<>();
+        Matcher line = Pattern.compile("(?m)^    public (int|long) (\\w+)\\((.*?)\\);$").matcher(document);
+        while (line.find()) {
+            want.add(line.group(1) + " " + line.group(2) + "(" + line.group(3).replaceAll(" \\w+(, |$)", "$1") + ")");
+        }
+        Set<String> got = new TreeSet<>();
+        Set<String> hidden = new TreeSet<>();
+        for (Method m : SomebodysLift.class.getDeclaredMethods()) {
+            List<String> types = new ArrayList<>();
+            for (Class<?> type : m.getParameterTypes()) {
+                types.add(type.getName());
+            }
+            if (Modifier.isPublic(m.getModifiers())) {
+                got.add(m.getReturnType() + " " + m.getName() + "(" + String.join(", ", types) + ")");
+            } else {
+                due(Modifier.isPrivate(m.getModifiers()), "private: " + m);
+                hidden.add(m.getName());
+            }
+        }
+        due(want.size() > 40 && want.equals(got), "the face: " + want + " " + got);
+        for (Class<?> inside : SomebodysLift.class.getDeclaredClasses()) {
+            due(Modifier.isStatic(inside.getModifiers()) && !Modifier.isPublic(inside.getModifiers()), "static: " + inside);
+            for (Method m : inside.getDeclaredMethods()) {
+                hidden.add(m.getName());
+            }
+            due(ownFields(inside) <= 20, "some twenty fields: " + inside);
+        }
+        for (String signature : want) {
+            due(!hidden.contains(signature.replaceAll(".* |\\(.*", "")), "not hidden: " + signature);
+        }
+        due(ownFields(SomebodysLift.class) <= 20, "some twenty fields");
+        due(SomebodysLift.class.getDeclaredClasses().length <= 12, "some twelve classes");
+        constants();
+    }
+
+    private static int ownFields(Class<?> it) {
+        int n = 0;
+        for (Field f : it.getDeclaredFields()) {
+            n += Modifier.isStatic(f.getModifiers()) ? 0 : 1;
+        }
+        return n;
+    }
+
+    private static void constants() {
+        Set<String> open = new TreeSet<>();
+        for (Member f : SomebodysLift.class.getDeclaredFields()) {
+            if (!Modifier.isPrivate(f.getModifiers())) {
+                open.add(Modifier.toString(f.getModifiers()) + " " + f.getName());
+            }
+        }
+        Set<String> want = new TreeSet<>();
+        for (String name : new String[] {"NONE", "BAD", "STATE", "FULL", "NO"}) {
+            want.add("public static final " + name);
+        }
+        due(open.equals(want), "the constants: " + open);
+        due(Modifier.toString(SomebodysLift.class.getModifiers()).equals("public final"), "public and final");
+    }
+
+    /** What calls make is counted: an object, its AIRS, and else nothing but a little of the machine's own. */
+    private static void room() {
+        com.sun.management.ThreadMXBean machine =
+            (com.sun.management.ThreadMXBean) java.lang.management.ManagementFactory.getThreadMXBean();
+        SomebodysLift x = new SomebodysLift();
+        for (int i = 0; i < 6; i++) {
+            x.lift(i, i, i, i);
+        }
+        long before = 0;
+        for (int round = 0; round < 3; round++) {
+            before = machine.getCurrentThreadAllocatedBytes();
+            x = round < 2 ? x : new SomebodysLift();
+            for (int n = 0; n < 100; n++) {
+                x.best(0);
+                x.two(1, 0);
+                x.worth(0);
+                x.image();
+                x.undo();
+                x.act(3, 2, 5);
+                x.feed('u');
+                x.air();
+                x.tape(0, 3, 60);
+                x.shift(0, 0, 0, 1, 9);
+                x.odds(1, 1, 0);
+                x.who();
+            }
+        }
+        long made = machine.getCurrentThreadAllocatedBytes() - before;
+        due(made < 20000, "an object and 1200 calls make little: " + made + " bytes");
+    }
+
+    private static String text(String path) throws IOException {
+        return new String(Files.readAllBytes(Path.of(path)), StandardCharsets.ISO_8859_1);
+    }
+
+    /** The arguments: the program's source, the document. */
+    public static void main(String[] args) throws Exception {
+        source(text(args[0]));
+        face(text(args[1]));
+        room();
+        System.out.println(wrong == 0 ? "the rules are kept" : wrong + " rules are not kept");
+        if (wrong != 0) {
+            System.exit(1);
+        }
+    }
+}
