@@ -282,6 +282,21 @@ public final class PromisesTest {
         due(air(new SomebodysLift(), full + "11"), -10 - 99);
     }
 
+    /** What a text with a FAULT has begun is not in the next AIR. */
+    private static void airBehindAFault() {
+        SomebodysLift x = begin(7);
+        x.lift(0, 0, 0, 5);
+        due(air(x, "base 20;safe 3;up 9 l=0;up 7 l=0&l"), -10 - 34);
+        due(x.of(0, 4), 5);
+        due(x.told(5), 400);
+        due(air(x, "up 1 l=0"), 0);
+        due(x.of(0, 4), 6);
+        due(x.told(5), 400);
+        due(x.told(6), 80);
+        due(air(x, "up 1 l=0;up 2 l=1;down 30 l=1;up 40 l=1|l=0;down 8 l=0&v=0"), 1);
+        due(x.of(0, 4), 38);
+    }
+
     private static void tests() {
         begin(7);
         due(holds("l=1", 0, 0, 0, 100, 0) ? 1 : 0, 1);
@@ -307,6 +322,8 @@ public final class PromisesTest {
         due(holds("(" + yes + "|" + no + ")&" + no, 0, 0, 0, 100, 0) ? 1 : 0, 0);
         due(holds(no + "&" + no + "|" + yes, 0, 0, 0, 100, 0) ? 1 : 0, 1);
         due(holds(no + "|" + yes + "|" + no, 0, 0, 0, 100, 0) ? 1 : 0, 1);
+        due(holds(yes + "|" + no + "|" + no, 0, 0, 0, 100, 0) ? 1 : 0, 1);
+        due(holds(yes + "&" + yes + "&" + no, 0, 0, 0, 100, 0) ? 1 : 0, 0);
         due(holds(no + "|" + yes + "&" + yes + "|" + no, 0, 0, 0, 100, 0) ? 1 : 0, 1);
         due(holds("!" + no + "&" + yes, 0, 0, 0, 100, 0) ? 1 : 0, 1);
         due(holds("!" + yes + "&" + no, 0, 0, 0, 100, 0) ? 1 : 0, 0);
@@ -457,6 +474,9 @@ public final class PromisesTest {
         air(x, "down 9 l=0");
         due(x.top(0, 0), 100);
         due(x.top(0, 1), 0);
+        air(x, "up 0 l=0");
+        due(x.top(0, 0), 400);
+        due(x.top(0, 1), 60);
     }
 
     private static void arrivesAndOuted() {
@@ -511,6 +531,11 @@ public final class PromisesTest {
         air(x, "down 20 l<9");
         due(x.next(5), 2);
         due(x.next(9), 3);
+        SomebodysLift y = new SomebodysLift();
+        y.lift(0, 0, 0, 0);
+        air(y, "down 9 l=0");
+        due(y.next(1), 0);
+        due(y.reach(1), 1);
     }
 
     private static void lowest() {
@@ -574,6 +599,9 @@ public final class PromisesTest {
         due(x.straight(10), -2);
         x.home(0);
         due(x.straight(9), 0);
+        x.glide(5, 3);
+        x.height(140);
+        due(x.straight(1), 45);
     }
 
     private static void best() {
@@ -605,6 +633,18 @@ public final class PromisesTest {
         due(x.best(1), 1);
         due(x.best(2), 0);
         due(x.told(2), 180);
+        // MINUTES count from now on, with the quickest pace too.
+        x.glide(5, 9);
+        x.height(400);
+        x.home(10);
+        due(x.best(0), -1);
+        due(x.best(1), 9);
+        due(x.best(2), 5);
+        x.height(100);
+        x.pull(0, 10);
+        due(x.by(1, 9, 0), 3 + 5);
+        due(x.best(0), 1);
+        due(x.best(2), 8);
     }
 
     private static void bestOfPaces() {
@@ -651,10 +691,22 @@ public final class PromisesTest {
         due(x.two(3, 1), 70 + 36 + 105 + 40 + 105);
         x.pull(1, 2);
         due(x.two(3, 0), -5);
+        // 40 MINUTES do in the first, 41 would be one too many.
+        x.pull(1, 9);
+        x.home(25);
+        x.pull(0, 4);
+        x.height(120);
+        due(x.two(3, 1), 70 + 40 + 105);
+        x.height(119);
+        due(x.two(3, 1), -5);
         // The other way round: from the greater number to the lesser.
         SomebodysLift y = new SomebodysLift();
         y.home(40);
         y.lift(0, 0, 25, 9);
+        y.height(400);
+        due(y.two(3, 0), -5);
+        due(y.by(0, 3, 0), 280);
+        y.height(100);
         y.lift(0, 0, 10, 5);
         due(y.two(3, 0), 10);
         due(y.two(3, 1), 330);
@@ -723,6 +775,10 @@ public final class PromisesTest {
         x.home(99);
         due(x.flown(1, 0), -5);
         due(x.told(2), 100);
+        x.home(0);
+        x.glide(10, 5);
+        x.height(50);
+        due(x.flown(3, 1), 30 + 35 + 10 + 35);
     }
 
     // ---- seen, odds, books
@@ -770,6 +826,10 @@ public final class PromisesTest {
         SomebodysLift x = begin(30);
         due(x.odds(0, 0, 0), NO);
         x.lift(0, 0, 10, 0);
+        due(x.odds(100, 10, 0), 1);
+        due(x.odds(100, 10, 1), 1);
+        due(x.odds(101, 10, 0), 0);
+        due(x.odds(101, 10, 1), 1);
         x.lift(0, 0, 10, 1);
         x.lift(0, 0, 10, 2);
         x.lift(0, 0, 10, 3);
@@ -797,6 +857,8 @@ public final class PromisesTest {
         due(x.mean(0, 0), NO);
         due(x.mean(0, 1), NO);
         x.lift(0, 0, 10, 0);
+        due(x.mean(0, 0), 100);
+        due(x.mean(0, 1), 1);
         x.lift(0, 0, 10, 1);
         x.lift(0, 0, 10, 4);
         due(x.mean(1, 0), 305);
@@ -956,6 +1018,39 @@ public final class PromisesTest {
         due(x.undo(), 3);
     }
 
+    /** Rows that were told away come back with their lifts and numbers. */
+    private static void undoOfRows() {
+        SomebodysLift x = begin(36);
+        x.lift(0, 0, 4, 5);
+        x.lift(0, 0, 8, 9);
+        x.home(8);
+        x.leg(0, 30);
+        x.leg(1, 7);
+        x.see(9);
+        x.see(9);
+        x.book(0, 5);
+        x.book(1, 9);
+        due(x.flown(1, 0), 100 - 24 + 150 - 24 + 63);
+        x.image();
+        x.leg(-1, 0);
+        x.leg(1, 1);
+        x.leg(0, 1);
+        x.see(-100);
+        x.see(5);
+        x.see(5);
+        x.book(-1, 0);
+        x.book(1, 0);
+        x.book(0, 0);
+        due(x.who(), 1);
+        due(x.looked(), 0);
+        x.undo();
+        due(x.flown(1, 0), 100 - 24 + 150 - 24 + 63);
+        due(x.who(), 2);
+        due(x.looked(), -5);
+        x.pull(1, 8);
+        due(x.looked(), 1);
+    }
+
     /** An undo brings a kind back under a number that has answered for another meanwhile. */
     private static void undoOfGain() {
         SomebodysLift x = begin(36);
@@ -1011,6 +1106,10 @@ public final class PromisesTest {
         tracedAct(x, 5, 0, 10, 15 ^ 6, 71, 10);
         tracedAct(x, 5, 1, 10, (15 ^ 6) - 6 + 7, 70, 11, 71, 10, 10);
         tracedAct(x, 5, 2, 10, 2 * ((15 ^ 6) + 1) + (6 ^ 6) + 1, 40, 12, 70, 11, 71, 10, 10, 70, 11, 71, 10, 10);
+        SomebodysLift y = new SomebodysLift();
+        y.lift(0, 0, 0, 0);
+        y.lift(5, 4, 0, 0);
+        tracedAct(y, 1, 2, 10, (27 + 1 - 4) * 2, 60, 12, 11, 30, 10);
         tracedAct(x, 1, 0, MAX, MIN, 10);
         promise = 38;
         due(x.count(6), 1);
@@ -1171,6 +1270,7 @@ public final class PromisesTest {
         feed();
         airs();
         faults();
+        airBehindAFault();
         tests();
         homeAndHeight();
         told();
@@ -1194,6 +1294,7 @@ public final class PromisesTest {
         bookAndLooked();
         judge();
         imageAndUndo();
+        undoOfRows();
         undoOfGain();
         actAndTrace();
         taken();
