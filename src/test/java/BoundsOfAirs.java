@@ -325,6 +325,12 @@ final class BoundsOfAirs {
         holds("!(v=0|v=0)", 0);
         holds("v=0&!v=0", 0);
         holds("!(!(v=0)|v>0)", 1);
+        holds("v=0&(v=0)", 1);
+        holds("v=0&(v>0)", 0);
+        holds("v>0&(v=0)", 0);
+        holds("(v=0)&(v=0)", 1);
+        holds("v>0|(v=0&(v=0))", 1);
+        holds("v=0&(v=0&!(v>0))", 1);
     }
 
     private static void heightByFifty() {

@@ -20,18 +20,25 @@ final class BoundsOfFlying {
         inNoneThen();
         askedBeyondTheLast();
         upOfMinutes();
+        upRefused();
         topOfMinutes();
         topLeast();
+        topRefused();
         arriving();
+        arrivesRefused();
         outed();
         outedOnTheWay();
+        outedRefused();
         reaching();
         reachingAsBits();
+        reachRefused();
         nextGreatest();
         nextAsThen();
         nextFirst();
+        nextRefused();
         lowest();
         lowestAbove();
+        lowestRefused();
     }
 
     private static void due(long got, long want) {
@@ -357,6 +364,13 @@ final class BoundsOfFlying {
         for (int n : new int[] {Due.MIN, -1, 61, Due.MAX}) {
             due(x.up(0, n), -2);
         }
+    }
+
+    private static void upRefused() {
+        Due.sentence("UP. NONE; BAD: n.");
+        SomebodysLift x = Due.with(0, 0, 77, 2);
+        due(x.up(0, -1), -2);
+        due(x.up(0, 61), -2);
         for (int lift : new int[] {Due.MIN, -1, 1, 6, Due.MAX}) {
             due(x.up(lift, 1), -1);
             due(x.up(lift, 61), -1);
@@ -396,6 +410,13 @@ final class BoundsOfFlying {
         due(x.top(0, 1), 1);
         x.height(400);
         due(x.top(0, 1), 0);
+    }
+
+    private static void topRefused() {
+        Due.sentence("TOP: what 0 HEIGHT, 1 n. NONE.");
+        SomebodysLift x = Due.with(0, 0, 77, 20);
+        due(x.top(0, 0), 400);
+        due(x.top(0, 1), 15);
         for (int what : new int[] {Due.MIN, -1, 2, Due.MAX}) {
             due(x.top(0, what), -1);
             due(x.top(1, what), -1);
@@ -420,9 +441,20 @@ final class BoundsOfFlying {
         due(x.arrives(1, 9), 0);
         due(x.arrives(0, 1), -5);
         due(x.arrives(2, 1), -5);
+    }
+
+    private static void arrivesRefused() {
+        Due.sentence("ARRIVES; -5. BAD: mile, pace.");
+        SomebodysLift x = new SomebodysLift();
+        due(x.arrives(0, 9), 100);
+        due(x.arrives(99, 1), -5);
         for (int mile : new int[] {Due.MIN, -1, 100, Due.MAX}) {
             due(x.arrives(mile, 1), -2);
-            due(x.outed(mile, 1), -2);
+            due(x.arrives(mile, 0), -2);
+        }
+        for (int pace : new int[] {Due.MIN, -1, 0, 10, Due.MAX}) {
+            due(x.arrives(0, pace), -2);
+            due(x.arrives(99, pace), -2);
         }
     }
 
@@ -456,6 +488,21 @@ final class BoundsOfFlying {
         x.height(0);
         due(x.outed(0, 1), 0);
         due(x.outed(99, 1), 0);
+    }
+
+    private static void outedRefused() {
+        Due.sentence("OUTED. BAD: mile, pace.");
+        SomebodysLift x = new SomebodysLift();
+        due(x.outed(0, 9), 0);
+        due(x.outed(99, 1), 16);
+        for (int mile : new int[] {Due.MIN, -1, 100, Due.MAX}) {
+            due(x.outed(mile, 1), -2);
+            due(x.outed(mile, 0), -2);
+        }
+        for (int pace : new int[] {Due.MIN, -5, -1, 0, 10, Due.MAX}) {
+            due(x.outed(0, pace), -2);
+            due(x.outed(99, pace), -2);
+        }
     }
 
     private static void reaching() {
@@ -495,6 +542,17 @@ final class BoundsOfFlying {
         x.height(100);
         due(x.reach(5), 1 + 2 + 4);
         due(x.reach(1), 1 + 2 + 4 + 8);
+    }
+
+    private static void reachRefused() {
+        Due.sentence("REACH, as bits. BAD.");
+        SomebodysLift x = Due.with(0, 0, 0, 0);
+        due(x.reach(1), 1);
+        due(x.reach(9), 1);
+        for (int pace : new int[] {Due.MIN, -5, -1, 0, 10, Due.MAX}) {
+            due(x.reach(pace), -2);
+            due(new SomebodysLift().reach(pace), -2);
+        }
     }
 
     private static void nextGreatest() {
@@ -554,6 +612,17 @@ final class BoundsOfFlying {
         due(x.next(1), -5);
     }
 
+    private static void nextRefused() {
+        Due.sentence("NEXT; -5. BAD.");
+        SomebodysLift x = Due.with(0, 0, 0, 0);
+        due(x.next(1), 0);
+        due(x.next(9), 0);
+        for (int pace : new int[] {Due.MIN, -5, -1, 0, 10, Due.MAX}) {
+            due(x.next(pace), -2);
+            due(new SomebodysLift().next(pace), -2);
+        }
+    }
+
     private static void lowest() {
         Due.sentence("LOWEST of a LIFT with a PACE: the least HEIGHT with which it ARRIVES with SAFE or more");
         SomebodysLift x = Due.with(0, 0, 7, 0);
@@ -563,10 +632,6 @@ final class BoundsOfFlying {
         due(x.lowest(0, 9), 98);
         x.glide(7, 1);
         due(x.lowest(0, 9), 0);
-        for (int lift : new int[] {Due.MIN, -1, 1, 6, Due.MAX}) {
-            due(x.lowest(lift, 1), -1);
-            due(x.lowest(lift, 0), -1);
-        }
         // What it is now does not matter.
         x.height(0);
         due(x.lowest(0, 1), 0);
@@ -589,5 +654,17 @@ final class BoundsOfFlying {
         due(x.lowest(2, 1), -5);
         Due.air(x, "safe 99");
         due(x.lowest(2, 1), -5);
+    }
+
+    private static void lowestRefused() {
+        Due.sentence("LOWEST; -5. NONE; BAD: pace.");
+        SomebodysLift x = Due.with(0, 0, 0, 0);
+        for (int lift : new int[] {Due.MIN, -1, 1, 6, Due.MAX}) {
+            due(x.lowest(lift, 1), -1);
+            due(x.lowest(lift, 0), -1);
+        }
+        for (int pace : new int[] {Due.MIN, -5, -1, 0, 10, Due.MAX}) {
+            due(x.lowest(0, pace), -2);
+        }
     }
 }

@@ -11,6 +11,7 @@ final class BoundsOfHome {
         byRefused();
         straight();
         straightNot();
+        straightRefused();
         bestOfStraightAndBy();
         bestNone();
         bestOfSeveral();
@@ -187,6 +188,18 @@ final class BoundsOfHome {
         due(x.straight(9), 0);
     }
 
+    private static void straightRefused() {
+        Due.sentence("STRAIGHT; -5. BAD.");
+        SomebodysLift x = new SomebodysLift();
+        due(x.straight(1), -5);
+        for (int home = 0; home <= 60; home += 60) {
+            x.home(home);
+            for (int pace : new int[] {Due.MIN, -5, -1, 0, 10, Due.MAX}) {
+                due(x.straight(pace), -2);
+            }
+        }
+    }
+
     private static void bestOfStraightAndBy() {
         Due.sentence("BEST: of STRAIGHT, and BY of all LIFTS, with all PACES, that with the fewest MINUTES: "
             + "which LIFT (-1: STRAIGHT");
@@ -324,9 +337,9 @@ final class BoundsOfHome {
 
     private static void twoFortyInTheFirst() {
         Due.sentence("(40 MINUTES at most), IN the second");
-        // 5 miles with PACE 1 and 0 at least: 30; the second one is at HOME.
+        // 5 miles with PACE 1 and SAFE: 40; the second one is at HOME, and stronger.
         SomebodysLift x = low(1);
-        x.lift(0, 0, 5, 0);
+        x.lift(0, 0, 5, 20);
         Due.air(x, "safe 1");
         due(x.two(1, 0), 1);
         due(x.two(1, 1), 40 + 45);
@@ -344,22 +357,23 @@ final class BoundsOfHome {
 
     private static void twoFortyInTheSecond() {
         Due.sentence("IN the second till it is enough HOME (40 at most)");
-        SomebodysLift x = Due.with(0, 0, 0, 0, "safe 0");
+        SomebodysLift x = Due.with(0, 0, 0, 0, "safe 1");
         x.lift(0, 0, 0, 1);
         x.home(5);
-        x.height(0);
+        x.height(10);
         due(x.two(1, 0), 1);
         due(x.two(1, 1), 30 + 45);
         due(x.two(3, 0), 1);
         due(x.two(3, 1), 40 + 35);
+        // With 50 one would ARRIVE, but with less than SAFE.
         due(x.two(4, 0), -5);
         due(x.two(4, 1), -5);
-        x.height(4);
+        x.height(14);
         due(x.two(4, 1), -5);
-        x.height(5);
+        x.height(15);
         due(x.two(4, 1), 40 + 30);
         // BY has 60.
-        x.height(0);
+        x.height(10);
         due(x.by(1, 4, 0), 45 + 30);
     }
 
@@ -432,6 +446,12 @@ final class BoundsOfHome {
         due(x.two(1, 0), 1);
         due(x.two(1, 1), 17 * 9 + 4);
         x.height(101);
+        due(x.two(1, 1), -5);
+        // OUT to the first, though the second is here, and so is HOME.
+        x = Due.with(0, 0, 17, 20);
+        x.lift(0, 0, 0, 1);
+        x.home(0);
+        due(x.two(1, 0), -5);
         due(x.two(1, 1), -5);
     }
 

@@ -7,6 +7,7 @@ final class BoundsOfLifts {
 
     static void all() {
         liftsAreSix();
+        liftRefused();
         kindsAreSeven();
         vIsADigit();
         milesAreAHundred();
@@ -53,6 +54,20 @@ final class BoundsOfLifts {
         due(x.of(5, 2), 15);
         due(x.of(6, 2), -1001);
         due(x.of(-1, 2), -1001);
+    }
+
+    private static void liftRefused() {
+        Due.sentence("A LIFT: its number. NONE: kind; BAD: v, mile, pull; FULL: 6.");
+        SomebodysLift x = new SomebodysLift();
+        for (int n = 0; n <= 6; n++) {
+            due(x.lift(-1, 0, 0, 0), -1);
+            due(x.lift(7, 10, 100, 21), -1);
+            due(x.lift(6, 10, 0, 0), -2);
+            due(x.lift(6, 0, 100, 0), -2);
+            due(x.lift(6, 0, 0, 21), -2);
+            due(x.count(0), n);
+            due(x.lift(6, 9, 99, 20), n < 6 ? n : -4);
+        }
     }
 
     private static void kindsAreSeven() {

@@ -17,12 +17,15 @@ final class BoundsOfRows {
         oddsAboveAndBelow();
         meanInLowestTerms();
         meanOfNone();
+        meanRefused();
         bookOfEight();
+        bookRows();
         bookFromTo();
         bookOfLifts();
         bookIsEmptyThen();
         lookedAtTheFirst();
         lookedAtNone();
+        lookedAtEight();
         actsWrap();
         bodiesOfLift();
         bodiesOfStrongAndWeak();
@@ -288,9 +291,6 @@ final class BoundsOfRows {
         x.height(0);
         due(x.mean(0, 0), 0);
         due(x.mean(0, 1), 1);
-        for (int n : new int[] {Due.MIN, -1, 61, Due.MAX}) {
-            due(x.mean(n, 0), Due.NO);
-        }
     }
 
     private static void meanOfNone() {
@@ -303,6 +303,20 @@ final class BoundsOfRows {
         x.lift(0, 0, 0, 20);
         due(x.mean(60, 0), 400);
         due(x.mean(60, 1), 1);
+    }
+
+    private static void meanRefused() {
+        Due.sentence("MEAN; part likewise. NO.");
+        SomebodysLift x = Due.with(0, 0, 0, 1);
+        due(x.mean(60, 0), 160);
+        due(x.mean(60, 1), 1);
+        for (int n : new int[] {Due.MIN, -1, 61, Due.MAX}) {
+            due(x.mean(n, 0), Due.NO);
+            due(x.mean(n, 1), Due.NO);
+        }
+        for (int part : new int[] {Due.MIN, -1, 2, Due.MAX}) {
+            due(x.mean(0, part), Due.NO);
+        }
     }
 
     // ---- the book
@@ -319,6 +333,20 @@ final class BoundsOfRows {
         due(x.book(0, 6), -4);
         due(x.count(4), 8);
         due(x.looked(), 7);
+    }
+
+    private static void bookRows() {
+        Due.sentence("A row comes to the BOOK: how many there are");
+        SomebodysLift x = Due.with(0, 0, 0, 5);
+        x.lift(0, 0, 0, 6);
+        for (int n = 1; n <= 8; n++) {
+            due(x.book(n % 2, n % 2 == 0 ? 5 : 6), n);
+        }
+        due(x.looked(), -5);
+        x.pull(0, 4);
+        due(x.looked(), 1);
+        x.pull(1, 4);
+        due(x.looked(), 0);
     }
 
     private static void bookFromTo() {
@@ -426,6 +454,24 @@ final class BoundsOfRows {
         due(x.looked(), 0);
         x.book(-1, 0);
         due(x.looked(), -5);
+    }
+
+    private static void lookedAtEight() {
+        Due.sentence("LOOKED at; -5.");
+        SomebodysLift x = Due.with(0, 0, 0, 5);
+        for (int n = 0; n < 8; n++) {
+            due(x.looked(), -5);
+            x.book(0, 5);
+        }
+        due(x.looked(), -5);
+        // Each of the eight can be the first.
+        for (int other = 0; other < 8; other++) {
+            x.book(-1, 0);
+            for (int n = 0; n < 8; n++) {
+                x.book(0, n < other ? 5 : 4);
+            }
+            due(x.looked(), other);
+        }
     }
 
     // ---- acts

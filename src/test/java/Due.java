@@ -46,9 +46,20 @@ final class Due {
     }
 
     private static void report(String what) {
-        StackTraceElement line = new Throwable().getStackTrace()[2];
-        System.out.println("\"" + sentence + "\": " + line + " " + what);
+        System.out.println("\"" + sentence + "\": " + lines() + " " + what);
         broken.add(sentence);
+    }
+
+    /** Where it was asked, from the test on. */
+    private static String lines() {
+        StringBuilder lines = new StringBuilder();
+        for (StackTraceElement line : new Throwable().getStackTrace()) {
+            boolean isOfATest = line.getClassName().startsWith("BoundsOf") && !line.getMethodName().equals("due");
+            if (isOfATest && !line.getMethodName().equals("all")) {
+                lines.insert(0, line.getFileName() + ":" + line.getLineNumber() + " ");
+            }
+        }
+        return lines.toString().trim();
     }
 
     static String told() {
