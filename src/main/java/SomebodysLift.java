@@ -17,7 +17,8 @@ public final class SomebodysLift {
     private static final int MOST_HEIGHT = 400, MOST_MILE = 99, MOST_V = 9, MOST_PULL = 20, MOST_PACE = 9;
     private static final int SAFE_WITHOUT = 80;
     private static final int MOST_MINUTES = 60, MOST_MINUTES_OF_TWO = 40, LAST_MINUTE = 9999;
-    private static final int NO_FLIGHT_HOME = Integer.MAX_VALUE, WORTH_OF_NONE = 999;
+    // More than any way home comes to, as quickest packs them.
+    private static final int NO_FLIGHT_HOME = 1000000000, WORTH_OF_NONE = 999;
     private static final int BYTES = 0, SHORTS = 1, INTS = 2, BOOLEANS = 4;
 
     private final Air calm = new Air();

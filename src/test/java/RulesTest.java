@@ -13,7 +13,7 @@ import java.util.TreeSet;
 import java.util.regex.Matcher;
 import java.util.regex.Pattern;
 
-/** What of LANGUAGE.md and of the document's face can be read off the source and the class. */
+/** The document's face, as the class has it, and how little a run of calls makes; the argument: the document. */
 public final class RulesTest {
     private static int wrong = 0;
 
@@ -22,38 +22,6 @@ public final class RulesTest {
             wrong++;
             System.out.println("not so: " + what);
         }
-    }
-
-    private static String withoutCommentsAndTexts(String source) {
-        return source.replaceAll("(?s)/\\*.*?\\*/", "").replaceAll("//[^\n]*", "")
-            .replaceAll("\"(?:[^\"\\\\]|\\\\.)*\"", "\"\"").replaceAll("'(?:[^'\\\\]|\\\\.)'", "' '");
-    }
-
-    private static void source(String all) {
-        String code = withoutCommentsAndTexts(all);
-        String[] banned = {"throw", "throws", "try", "catch", "synchronized", "assert", "protected", "package", "hashCode",
-            "Random", "currentTimeMillis", "nanoTime", "Thread", "System\\.out", "\\w+Exact", "String\\.format", "Object"};
-        for (String word : banned) {
-            due(!Pattern.compile("\\b" + word + "\\b").matcher(code).find(), "no " + word);
-        }
-        due(!code.contains("->") && !code.contains("::"), "no lambda, no method reference");
-        for (String line : code.split("\n")) {
-            if (line.startsWith("import ")) {
-                due(line.matches("import java\\.util\\.(Arrays|ArrayList|List|Iterator);"), "no other import: " + line);
-            }
-            boolean field = line.matches("\\s*(private |public )?static .*[=;].*") && !line.contains("(");
-            due(!field || line.contains(" final "), "static fields are final: " + line);
-        }
-        Matcher header = Pattern.compile("(?m)^( +)(?!.*\\b(?:class|new|return|else)\\b)[\\w\\[\\]<> ]+\\([^()]*\\) \\{$")
-            .matcher(code);
-        int methods = 0;
-        while (header.find()) {
-            methods++;
-            int end = Math.max(header.end(), code.indexOf("\n" + header.group(1) + "}", header.end()));
-            due(code.substring(header.end(), end).split("\n").length <= 70, "no long method: " + header.group());
-            due(header.group().split(",").length <= 7, "at most seven parameters: " + header.group());
-        }
-        due(methods > 0, "methods were found");
     }
 
     private static void face(String document) throws Exception {
@@ -153,10 +121,8 @@ public final class RulesTest {
         return new String(Files.readAllBytes(Path.of(path)), StandardCharsets.ISO_8859_1);
     }
 
-    /** The arguments: the program's source, the document. */
     public static void main(String[] args) throws Exception {
-        source(text(args[0]));
-        face(text(args[1]));
+        face(text(args[0]));
         room();
         System.out.println(wrong == 0 ? "the rules are kept" : wrong + " rules are not kept");
         if (wrong != 0) {
